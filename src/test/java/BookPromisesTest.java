@@ -10,10 +10,12 @@ public final class BookPromisesTest {
         balance();
         richest();
         jars();
+        jarsEnds();
         jarsAlike();
         ends();
         whose();
         whoseLarge();
+        whoseOfAll();
         trickle();
         trickled();
         burnAt();
@@ -121,6 +123,11 @@ public final class BookPromisesTest {
         due("richest(0)", x.richest(0), -2);
         due("richest(1)", x.richest(1), -1);
         due("richest(-1)", x.richest(-1), -1);
+        x.book(1, 0, 1, false);
+        due("1 by i", x.richest(1), 1);
+        x.annul(0);
+        due("nobody", x.richest(2), -2);
+        x = Check.told(TWO);
         x.book(1, 0, 4, false);
         x.book(2, 1, 1, false);
         x.book(3, 0, 9, true);
@@ -174,6 +181,21 @@ public final class BookPromisesTest {
         due("b 501", x.jars(1, 4, 501, 2), 13);
         due("what 3", x.jars(1, 4, 5, 3), -1);
         due("what -1", x.jars(1, 4, 5, -1), -1);
+    }
+
+    private static void jarsEnds() {
+        CoinBoats x = Check.told("kind a 1 1 1;kind b 9 1 1;island i 1 1;");
+        x.book(1, 0, 100, true);
+        x.book(1, 1, 100, true);
+        x.book(1, 1, 100, false);
+        due("k 10", x.jars(1, 3, 9, 0), 10);
+        due("l 0", x.jars(1, 3, 9, 1), 0);
+        due("OFF 0", x.jars(1, 3, 9, 2), 0);
+        due("k 10", x.ends(1, 3, 9, 0), 1010);
+        due("k 9", x.ends(1, 3, 9, 10), 910);
+        x.book(1, 0, 100, false);
+        due("k 0", x.ends(1, 4, 9, 9), 0);
+        due("k 0 and 1", x.ends(1, 4, 9, 10), 1);
     }
 
     private static void jarsAlike() {
@@ -239,6 +261,11 @@ public final class BookPromisesTest {
         due("whoseWays(4, 0, true)", x.whoseWays(4, 0, true), -1);
         x.looked(1, 0, 0);
         due("0 looked at", x.whose(1), -2);
+        x.looked(2, 1, 0);
+        due("1 looked at", x.whose(2), 2);
+        x.annul(1);
+        x = Check.told(TWO);
+        x.looked(1, 0, 0);
         x.looked(1, 4, 1);
         x.looked(2, 3, 2);
         x.looked(3, 3, 0);
@@ -291,6 +318,39 @@ public final class BookPromisesTest {
         x.annul(1);
         x.looked(2, 19, 10);
         due("10 of 19 of 59", x.whose(5), 2);
+    }
+
+    /** All small books of three islands, by ways counted apart: whose a or more of the f are, times the others' all. */
+    private static void whoseOfAll() {
+        CHECK.promise("Promise 38");
+        CoinBoats x = Check.told(TWO);
+        Plain y = new Plain();
+        y.feed(0x6b696e64, 0x20612031, 0x20312031, 0x3b202020, 0x20202020);
+        y.feed(0x69736c61, 0x6e642069, 0x20312031, 0x3b202020, 0x20202020);
+        y.feed(0x69736c61, 0x6e64206a, 0x20312031, 0x3b202020, 0x20202020);
+        y.feed(0x69736c61, 0x6e64206b, 0x20312031, 0x3b202020, 0x20202020);
+        due("read()", y.read(), 0);
+        x.hold(0);
+        y.hold(0);
+        for (int one = 0; one < 28; one++) {
+            for (int two = 0; two < 28; two++) {
+                for (int three = 0; three < 28; three += 1 + two % 3) {
+                    int[] pairs = {one, two, three};
+                    x.restore(0);
+                    y.restore(0);
+                    for (int p = 1; p <= 3; p++) {
+                        int many = 0;
+                        int wrong = pairs[p - 1];
+                        while (wrong > many) {
+                            wrong -= ++many;
+                        }
+                        x.looked(p, many, wrong);
+                        y.looked(p, many, wrong);
+                    }
+                    due("whose(3) of " + one + ", " + two + ", " + three, x.whose(3), y.whose(3));
+                }
+            }
+        }
     }
 
     private static void trickle() {
@@ -387,6 +447,11 @@ public final class BookPromisesTest {
         due("4400, 4300", x.sort(10, 3, 20, 2, 30, 7, 2), 1);
         due("4400, 4500", x.sort(10, 3, 20, 2, 30, 7, 4), 0);
         due("no piece", x.sort(0, 3, 20, 2, 30, 7, 0), 0);
+        due("nothing wrong there", x.sort(1, 0, 1, 0, 0, 1, 0), 1);
+        due("nothing wrong here", x.sort(1, 0, 0, 0, 1, 1, 0), 0);
+        due("all for nothing", x.sort(1, 0, 0, 0, 0, 0, 0), 0);
+        due("999900, 999900", x.sort(1, 9999, 0, 0, 0, 0, 9999), 0);
+        due("999900, 999800", x.sort(1, 9999, 0, 0, 0, 0, 9998), 1);
         due("the most", x.sort(9999, 9999, 100, 9999, 99, 9999, 9999), 1);
         due("the most", x.sort(9999, 9999, 99, 9999, 100, 9999, 0), 0);
         due("beyond 32 bits", x.sort(9999, 9999, 100, 0, 100, 9999, 9999), 1);

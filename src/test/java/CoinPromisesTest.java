@@ -167,6 +167,18 @@ public final class CoinPromisesTest {
         x.lay(0, 1, 0, 7);
         due("change(0, 8, 8, 0)", x.change(0, 8, 8, 0), -2);
         changed(x, 7, 8, of(7, 0), of(0, 7));
+        // 1 is 8 * 500 - 93 * 43 alone.
+        x = Check.told("kind a 500 1 1;kind b 43 1 1;");
+        x.lay(0, 1, 0, 93);
+        changed(x, 1, 8, of(8, 0), of(0, 93));
+        due("change(0, 1, 7, 0)", x.change(0, 1, 7, 0), -2);
+        x.burn(1, 0);
+        x.lay(0, 1, 0, 92);
+        due("change(0, 1, 8, 0)", x.change(0, 1, 8, 0), -2);
+        // 151 is 8 * 490 + 3 * 27 - 14 * 275 alone: 4001 would be given.
+        CoinBoats z = Check.told("kind a 490 1 1;kind b 275 1 1;kind c 27 1 1;");
+        z.lay(0, 1, 0, 99);
+        due("change(0, 151, 8, 0)", z.change(0, 151, 8, 0), -2);
         due("change(0, 0, 1, 0)", x.change(0, 0, 1, 0), -1);
         due("change(0, 2001, 1, 0)", x.change(0, 2001, 1, 0), -1);
         due("change(0, 1, -1, 0)", x.change(0, 1, -1, 0), -1);
@@ -265,7 +277,15 @@ public final class CoinPromisesTest {
         due("price", x.price(1, 0, 5, 2, 0, 1), 8);
         due("12 months of 4 ways, 24 and more WANTED", x.least(1, 0, 6, 11, 0, 3),
             (1L << 22) * 6 * 11 * 2 + (1L << 22) * 6 * 11 * 3 / 2);
+        x = Check.told("kind a 1 1 1;island i 0 9;want i a=70;island j 60 9;want j a=70;boat j 0 999 1;");
+        due("q 60 of 70", x.least(1, 0, 0, 1, 60, 0), 90);
+        due("q 59 of 70", x.least(1, 0, 0, 1, 59, 0), 99);
+        due("price of q 59", x.price(1, 0, 0, 1, 59, 0), 9);
+        due("SAFE 60, q 59", x.least(2, 0, 0, 1, 59, 0), 2 + 90);
+        due("SAFE 60, q 0", x.order(2, 0, 0, 1, 0, 0), 60);
+        due("SAFE 60, q 60", x.least(2, 0, 0, 1, 60, 0), 90);
         x = Check.told("kind a 1 1 1;island i 0 99;want i a=9999;");
+        due("the price of a new object's first call", x.price(1, 0, 0, 1, 0, 0), 99);
         due("the most", x.least(1, 0, 0, 12, 0, 3), 16777216L * 12 * 99 * 9999 + 16777216L / 4 * 12 * 99 * 6);
     }
 
@@ -394,5 +414,20 @@ public final class CoinPromisesTest {
         due("those that there are not", x.holds(0, 0, 0, 5, -7, -8), 0);
         due("those that there are not", x.holds(0, 0, 0, 4, 99, 99), 3);
         due("those that there are not", x.holds(0, 0, 0, 6, 0, 0), 16);
+        due("a -1 of two", x.holds(0, 0, -1, 9, 0, 0), -1);
+        due("b -1 of two", x.holds(0, 0, 9, -1, 0, 0), -1);
+        x = Check.told("kind a 1 1 1;island i 9 4;want i a=1;");
+        due("one alone saves nothing", x.holds(0, 0, 0, -1, -1, -1), 0);
+        due("a 1 of one", x.holds(0, 0, 1, 0, 0, 0), 16);
+        due("a -1 of one", x.holds(0, 0, -1, 0, 0, 0), -1);
+        x = Check.told("kind a 1 1 1;");
+        due("no islands", x.holds(0, 0, -1, -1, -1, -1), 0);
+        x = Check.told("kind a 1 1 1;island i 9 4;island j 9 9;island k 9 2;want k a=2;");
+        x.lay(1, 0, 0, 1);
+        due("c of three", x.holds(0, 0, 0, 0, 2, -9), 0);
+        due("c -1 of three", x.holds(0, 0, 9, 9, -1, 0), -1);
+        due("c 1 of three", x.holds(0, 0, 0, 0, 1, 0), 5);
+        due("a, c of three", x.holds(0, 0, 1, 0, 1, 0), 0);
+        due("b of three", x.holds(0, 0, 0, 2, 0, 0), 5);
     }
 }

@@ -20,6 +20,7 @@ public final class TextPromisesTest {
         boats();
         wants();
         arithmetic();
+        again();
         CHECK.finish();
     }
 
@@ -271,6 +272,7 @@ public final class TextPromisesTest {
         fault(I + "kind i 1 1 1;", 3, 18);
         fault(K + I + "boat i 3 1 1;boat i 3 1 1;", 3, 46);
         good(K + I + "boat i 3 1 1;boat i 4 1 1;");
+        names();
         good(K + I + "island j 1 1;boat i 3 1 1;boat j 3 1 1;");
         fault(K + I + "boat i 3 1 1;boat i 03 1 1;", 3, 46);
         fault("want i k=1;", 4, 5);
@@ -288,6 +290,19 @@ public final class TextPromisesTest {
         fault(K + I + "flow i j k=1;", 4, 33);
         fault(K + I + "flow i house j=1;", 4, 39);
         fault(K + I + "flow j j k=1;", 4, 31);
+    }
+
+    /** Names that are other ones in one letter alone, or longer by one. */
+    private static void names() {
+        good("kind abcdefgh 1 1 1;kind bbcdefgh 1 1 1;kind abcdefgg 1 1 1;kind abcdffgh 1 1 1;island abcdefg 1 1;"
+            + "island bcdefgh 1 1;");
+        good("kind a 1 1 1;kind aa 1 1 1;kind aaa 1 1 1;kind b 1 1 1;kind ab 1 1 1;kind ba 1 1 1;");
+        good("kind p 1 1 1;kind ap 1 1 1;kind z 1 1 1;kind az 1 1 1;kind zz 1 1 1;kind zzzzzzzz 1 1 1;island zzzzzzz 1 1;");
+        fault("kind zzzzzzzz 1 1 1;island zzzzzzzz 1 1;", 3, 27);
+        CoinBoats x = Check.told("kind k 1 1 1;island i 1 1;island ii 1 1;island j 1 1;want ii k=2;want i k=1;want j k=3;");
+        for (int place = 1; place < 4; place++) {
+            due("want(" + place + ", 0, 0)", x.want(place, 0, 0), place);
+        }
     }
 
     private static void bounds() {
@@ -401,6 +416,31 @@ public final class TextPromisesTest {
         due("want(1, 0, 12)", x.want(1, 0, 12), -1);
         due("want(1, 0, -1)", x.want(1, 0, -1), -1);
         due("count(2)", x.count(2), 4);
+    }
+
+    /** Text behind text: each is read as if it were the first one. */
+    private static void again() {
+        CHECK.promise("Promise 4, again and again");
+        StringBuilder e = new StringBuilder("1");
+        for (int i = 1; i < 180; i++) {
+            e.append("+1");
+        }
+        CoinBoats x = new CoinBoats();
+        for (int i = 0; i < 6; i++) {
+            due("read()", Check.tell(x, K + I + "want i k=" + e + "+" + i + ";"), 0);
+            due("want(1, 0, 0)", x.want(1, 0, 0), 180 + i);
+            due("read()", Check.tell(x, K + I + "want i k=1/0;lost i k=7;wear k=7;flow house i k=7;boat i 0 9 9;"), 0);
+            due("want(1, 0, 0)", x.want(1, 0, 0), 0);
+            due("read() of a FAULT", Check.tell(x, K + I + "want i k=(((1-;"), 1);
+            x.lay(0, 0, 0, 8);
+            x.lay(1, 0, 2, 8);
+            x.months(1, 1);
+            due("has(1, 0, -1)", x.has(1, 0, -1), 8);
+            due("count(10)", x.count(10), 1);
+            due("count(11)", x.count(11), 1);
+            due("count(3)", x.count(3), 1);
+            due("count(4)", x.count(4), 1);
+        }
     }
 
     private static void says(String e, int month, int want) {
