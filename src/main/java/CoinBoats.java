@@ -1676,13 +1676,17 @@ public final class CoinBoats {
         /** The fewest pieces of a KIND and those behind it, for all sums up to one. */
         private void fill(int[] row, int column, int kind, int sum) {
             clear(row, sum);
+            // No sum above this one is paid with the KINDS so far.
+            int reach = 0;
             for (int i = Math.max(0, kind); i < tills.size(); i++) {
                 int worth = tills.get(i, WORTH);
                 int there = tills.get(i, column);
                 if (worth >= 1 && there >= sum / worth) {
+                    reach = sum;
                     addEndless(row, worth, sum);
                 } else {
-                    addLumps(row, worth, there, sum);
+                    reach = Math.min(sum, reach + there * worth);
+                    addLumps(row, worth, there, reach);
                 }
             }
         }
