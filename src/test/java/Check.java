@@ -22,8 +22,36 @@ final class Check {
         due(call, got ? 1 : 0, want ? 1 : 0);
     }
 
+    void due(String call, String got, String want) {
+        if (!got.equals(want)) {
+            System.out.println("  was " + want);
+            System.out.println("  is  " + got);
+        }
+        due(call, got.equals(want), true);
+    }
+
+    /** A text's FAULT, at the place of the first ^, which is not of the text. */
+    void fault(int fault, String marked) {
+        int place = marked.indexOf('^');
+        told(marked.substring(0, place) + marked.substring(place + 1), fault, place);
+    }
+
+    void good(String text) {
+        told(text, 0, CoinBoats.NONE);
+    }
+
+    private void told(String text, int fault, int place) {
+        CoinBoats x = new CoinBoats();
+        due("read() of [" + text + "]", tell(x, text), fault);
+        due("place() of [" + text + "]", x.place(), place);
+    }
+
     int wrong() {
         return wrong;
+    }
+
+    int asked() {
+        return asked;
     }
 
     void finish() {
