@@ -323,17 +323,17 @@ public final class BookPromisesTest {
     /** All small books of three islands, by ways counted apart: whose a or more of the f are, times the others' all. */
     private static void whoseOfAll() {
         CHECK.promise("Promise 38");
-        CoinBoats x = Check.told(TWO);
         Plain y = new Plain();
         y.feed(0x6b696e64, 0x20612031, 0x20312031, 0x3b202020, 0x20202020);
         y.feed(0x69736c61, 0x6e642069, 0x20312031, 0x3b202020, 0x20202020);
         y.feed(0x69736c61, 0x6e64206a, 0x20312031, 0x3b202020, 0x20202020);
         y.feed(0x69736c61, 0x6e64206b, 0x20312031, 0x3b202020, 0x20202020);
         due("read()", y.read(), 0);
-        x.hold(0);
         y.hold(0);
         for (int one = 0; one < 28; one++) {
             for (int two = 0; two < 28; two++) {
+                CoinBoats x = Check.told(TWO);
+                x.hold(0);
                 for (int three = 0; three < 28; three += 1 + two % 3) {
                     int[] pairs = {one, two, three};
                     x.restore(0);

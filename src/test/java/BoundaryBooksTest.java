@@ -390,6 +390,11 @@ public final class BoundaryBooksTest {
         // One that has none false has all ways.
         due("all luck", looks(5, 0, 5, 1).whose(2), 2);
         due("all luck, and more luck", looks(5, 1, 5, 0).whose(2), 1);
+        // 1, 1/2, 5/14; 3/4, 25/28, 11/14; 3/8, 1, 1/2; 25/28, 11/14, 3/4.
+        due("5 of 14 and 1 of 2", looks(2, 0, 4, 3, 2, 2).whose(3), 3);
+        due("3 of 4 and 11 of 14", looks(1, 1, 3, 2, 4, 3).whose(3), 1);
+        due("3 of 8 and 1 of 2", looks(1, 1, 3, 0, 4, 2).whose(3), 1);
+        due("11 of 14 and 3 of 4", looks(3, 2, 4, 3, 1, 1).whose(3), 3);
         // Ways beyond 53 bits.
         due("30 and 30, 16 and 15", looks(30, 16, 30, 15).whose(2), 1);
         due("30 and 30, 15 and 16", looks(30, 15, 30, 16).whose(2), 2);

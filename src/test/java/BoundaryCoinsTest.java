@@ -129,6 +129,11 @@ public final class BoundaryCoinsTest {
         // Two KINDS of one WORTH: the first of them.
         pays(with(worths(7, 7), 9, 9), 21, 3, 0);
         pays(with(worths(7, 7), 2, 9), 21, 2, 1);
+        // More than enough of one KIND, few of another.
+        pays(with(worths(1, 500), 9999, 3), 2000, 500, 3);
+        pays(with(worths(500, 1), 3, 9999), 2000, 3, 500);
+        pays(with(worths(1, 500, 2), 9999, 3, 100), 2000, 300, 3, 100);
+        pays(with(worths(500, 2, 1), 3, 100, 9999), 1999, 3, 100, 299);
         // With the fewest, not with the greatest ones.
         pays(with(worths(1, 15, 20), 9, 2, 1), 30, 0, 2, 0);
         pays(with(worths(1, 15, 20), 10, 1, 1), 30, 10, 0, 1);
@@ -212,6 +217,10 @@ public final class BoundaryCoinsTest {
         // What comes back, 11 of two, of 100.
         changes(with(worths(3, 4, 7, 8, 100), 9, 9, 9, 9, 0), 89, 1, -1, 0, 0, -1, 1);
         changes(with(worths(3, 4, 7, 8, 100), 0, 9, 9, 9, 0), 89, 1, 0, -1, -1, 0, 1);
+        // 15 of three: 5 + 5 + 5, 5 + 4 + 6.
+        changes(with(worths(5, 4, 6), 0, 0, 0), 15, 9, 3, 0, 0);
+        changes(with(worths(4, 5, 6), 0, 0, 0), 15, 9, 1, 1, 1);
+        changes(with(worths(5, 4, 6, 100), 9, 9, 9, 0), 85, 1, -3, 0, 0, 1);
         // Two KINDS of one WORTH.
         changes(with(worths(7, 7), 0, 0), 7, 9, 1, 0);
         changes(with(worths(50, 10, 10), 0, 9, 9), 40, 1, 1, -1, 0);

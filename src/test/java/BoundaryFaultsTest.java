@@ -133,6 +133,11 @@ public final class BoundaryFaultsTest {
         bad(1, text + "^#");
         bad(1, text + "^abcdefghi");
         bad(2, text + "^kind");
+        bad(1, tokens(399) + "wear ^1");
+        bad(1, tokens(399) + "wear ^wear");
+        bad(1, tokens(399) + "wear^");
+        bad(1, tokens(398) + "wear k^;");
+        bad(1, withoutLast(text) + "+^;");
         bad(1, kinds(6) + "wear a=1 ^kind g 1 1 1;");
         bad(1, kinds(6) + "wear ^kind=1;");
         bad(1, K + "wear k=((((((1^(1)))))));");
@@ -256,6 +261,10 @@ public final class BoundaryFaultsTest {
         bad(2, K + "wear k=[1<[1<[1<[1<[1<[1<^[1<1]]]]]]];");
         good(K + "wear k=((((((1))))))*((((((1))))))+[(((((1)))))<(((((1)))))];");
         bad(2, K + "wear k=[(((((^(1))))))<1];");
+        CoinBoats x = Check.told(K + I + "want i k=1+2*(1+2*(1+2*(1+2*(1+2*(1+2*(3))))));");
+        due("six within one another", x.want(1, 0, 0), 255);
+        x = Check.told(K + I + "want i k=1+2*[0<1+2*[0<1+2*[0<1+2*[0<1+2*[0<1+2*[0<1+2*3]]]]]];");
+        due("six within one another", x.want(1, 0, 0), 3);
         bad(2, K + "wear k=[1<(((((^(1))))))];");
     }
 
@@ -286,6 +295,7 @@ public final class BoundaryFaultsTest {
         bad(3, "kind abcdefgh 1 1 1;island ^abcdefgh 1 1;");
         good("kind abcdefgh 1 1 1;island abcdefgi 1 1;island bbcdefgh 1 1;island abcdefg 1 1;kind bcdefgh 1 1 1;");
         good("kind a 1 1 1;kind aa 1 1 1;kind aaa 1 1 1;island aaaa 1 1;");
+        good("kind aa 1 1 1;kind q 1 1 1;kind ab 1 1 1;kind r 1 1 1;kind ba 1 1 1;kind z 1 1 1;island az 1 1;island zz 1 1;");
     }
 
     private static void twoBoats() {
@@ -407,6 +417,32 @@ public final class BoundaryFaultsTest {
         due("boats", x.count(4), 0);
         due("the same text again", Check.tell(x, TEXT), 0);
         due("kinds", x.count(0), 2);
+        textBehindText();
+    }
+
+    /** The fullest text, and the longest, again and again: nothing of the ones ahead is left. */
+    private static void textBehindText() {
+        CoinBoats x = new CoinBoats();
+        String full = K + I + rules(0, 12) + rules(1, 12) + rules(2, 12) + rules(3, 12) + rules(4, 12);
+        int[] counts = {1, 1, 12, 12, 12, 0, 0, 0, 0, 0, 12, 12};
+        for (int i = 0; i < 5; i++) {
+            due("the fullest text", Check.tell(x, full), 0);
+            for (int what = 0; what < 12; what++) {
+                due("count(" + what + ")", x.count(what), counts[what]);
+            }
+            due("the longest text", Check.tell(x, tokens(400)), 0);
+            due("count(2)", x.count(2), 1);
+            due("count(3)", x.count(3), 0);
+            due("WANTED", x.want(1, 0, 0), 190);
+        }
+        due("read() of nothing", x.read(), 0);
+        due("a text without rules", Check.tell(x, K + I), 0);
+        due("WANTED", x.want(1, 0, 0), 0);
+        due("a BOAT", x.boat(1, 0), -2);
+        x.lay(0, 0, 0, 9);
+        x.lay(1, 0, 0, 9);
+        due("nothing is lacked", x.months(1, 1), 0);
+        due("no FLOW, WEAR, LOSS", x.has(1, 0, 0), 9);
     }
 
     private static void noPieces() {

@@ -54,6 +54,12 @@ public final class BoundaryPiecesTest {
         due("the house", x.strike(1, 9999), 9999);
         due("WORN 4", x.has(2, 1, 4), -1);
         due("lay WORN 4", x.lay(2, 1, 4, 1), -1);
+        x = Check.told(TWO);
+        for (int worn = 1; worn < 4; worn++) {
+            fill(x, 0, 1, worn, MOST);
+        }
+        due("new ones, the worn ones are full", x.strike(1, 9999), 3 * MOST + 9999);
+        due("has(0, 1, 0)", x.has(0, 1, 0), 9999);
     }
 
     private static void struck() {

@@ -154,6 +154,11 @@ public final class BoundaryStocksTest {
         // Once for all it brings; each MONTH anew.
         plan(x, 0, 2, 0, 0, 30 + 7 + 7, 1);
         plan(x, 0, 3, 0, 0, 30 + 7 + 14, 1);
+        x = Check.told("kind k 1 1 7;island i 60 99;want i k=3;boat i 0 99 30;boat i 1 99 29;");
+        plan(x, 0, 1, 0, 0, 30 + 21, 3);
+        plan(x, 0, 1, 1, 0, 30 + 14, 2);
+        plan(x, 0, 2, 0, 0, 30 + 42, 6);
+        plan(x, 0, 2, 3, 0, 29 + 21, 0);
         x = Check.told("kind k 1 1 0;island i 60 99;want i k=2;boat i 0 99 0;");
         plan(x, 0, 1, 0, 0, 0, 2);
         plan(x, 0, 12, 0, 0, 0, 24);
@@ -469,6 +474,17 @@ public final class BoundaryStocksTest {
         due("0 for c", x.holds(0, 0, 99, 99, 0, 99), 16);
         due("0 for d", x.holds(0, 0, 99, 99, 99, 0), 16);
         due("0 for d", x.holds(0, 0, 0, 36, 8, 0), 9);
+        String[] texts = {"island i 1 1;", "island j 1 1;", "island l 1 1;", "island m 1 1;"};
+        String text = "kind k 1 1 1;";
+        for (int islands = 1; islands <= 4; islands++) {
+            text += texts[islands - 1];
+            x = Check.told(text);
+            due("0 each of " + islands, x.holds(0, 0, 0, 0, 0, 0), 0);
+            due("a -1 of " + islands, x.holds(0, 0, -1, 9, 9, 9), -1);
+            due("b -1 of " + islands, islands < 2 ? -1 : x.holds(0, 0, 9, -1, 9, 9), -1);
+            due("c -1 of " + islands, islands < 3 ? -1 : x.holds(0, 0, 9, 9, -1, 9), -1);
+            due("d -1 of " + islands, islands < 4 ? -1 : x.holds(0, 0, 9, 9, 9, -1), -1);
+        }
     }
 
     private static void partsOfNone() {

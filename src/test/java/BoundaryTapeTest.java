@@ -347,6 +347,10 @@ public final class BoundaryTapeTest {
             bad("kind ^" + word + " 1 1 1;");
             bad("island ^" + word + " 1 1;");
             good("kind " + word + "s 1 1 1;island x" + word + " 1 1;");
+            for (int at = 0; at < word.length(); at++) {
+                String other = word.substring(0, at) + (word.charAt(at) == 'q' ? 'p' : 'q') + word.substring(at + 1);
+                good("kind " + other + " 1 1 1;island " + word.substring(0, at) + word.substring(at + 1) + "z 1 1;");
+            }
         }
         // Eight letters are told apart by the first and by the last one.
         good("kind abcdefgh 1 1 1;kind bbcdefgh 1 1 1;kind abcdefgi 1 1 1;kind abcdefg 1 1 1;island bcdefgh 1 1;");

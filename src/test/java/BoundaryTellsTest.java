@@ -319,7 +319,13 @@ public final class BoundaryTellsTest {
         says("5/[2<1]", 0, 0);
         says("5+7/(256*256*256*256)", 0, 0);
         says("5+0/7", 0, 5);
-        CoinBoats x = Check.told(TWO + "flow i j k=3+1/month;lost i l=3+1/month;wear l=3+1/month;");
+        CoinBoats x = Check.told(TWO + "want i k=7;want i l=1/0;want j k=8;want j l=9+[0==month/month];");
+        due("an E ahead of one that divides by 0", x.want(1, 0, 0), 7);
+        due("one that divides by 0", x.want(1, 1, 0), 0);
+        due("an E behind it", x.want(2, 0, 0), 8);
+        due("one that divides by 0 in month 0", x.want(2, 1, 0), 0);
+        due("and not in month 1", x.want(2, 1, 1), 9);
+        x = Check.told(TWO + "flow i j k=3+1/month;lost i l=3+1/month;wear l=3+1/month;");
         x.lay(1, 0, 0, 50);
         x.lay(1, 1, 0, 50);
         x.months(1, 1);
@@ -348,6 +354,12 @@ public final class BoundaryTellsTest {
         says("[month<6]*7", 6, 0);
         says("[month==11]*7", 11, 7);
         says("[month==11]*7", 10, 0);
+        says("5+[2<2]", 0, 5);
+        says("5+[3<2]*3", 0, 5);
+        says("5-[3<2]", 0, 5);
+        says("5+[1==2]", 0, 5);
+        says("5-[3==2]*3", 0, 5);
+        says("5+[1<2]+[2==2]", 0, 7);
         says("[[1<2]==[2==2]]+[1<2]*40", 0, 41);
     }
 

@@ -17,7 +17,7 @@ public final class RandomRunsTest {
     }
 
     public static void main(String[] args) {
-        int runs = args.length > 0 ? Integer.parseInt(args[0]) : 400;
+        int runs = args.length > 0 ? Integer.parseInt(args[0]) : 500;
         int wrong = 0;
         long asked = 0;
         for (int seed = 1; seed <= runs && wrong < 3; seed++) {
@@ -95,8 +95,8 @@ public final class RandomRunsTest {
             tell();
         }
         int style = of(4);
-        while (calls.size() < 470 && wrong == 0) {
-            if (of(90) == 0 && calls.size() < 300) {
+        while (calls.size() < 500 && wrong == 0) {
+            if (of(90) == 0 && calls.size() < 350) {
                 tell();
             } else if (of(8) == 0) {
                 ask();
@@ -135,8 +135,8 @@ public final class RandomRunsTest {
         same("back " + back, x.back(back), y.back(back));
         same("read [" + text + "]", x.read(), y.read());
         same("place", x.place(), y.place());
-        kinds = x.count(0);
-        islands = x.count(1);
+        kinds = y.count(0);
+        islands = y.count(1);
         for (int what = 0; what < 12; what++) {
             same("count " + what, x.count(what), y.count(what));
         }
@@ -188,14 +188,14 @@ public final class RandomRunsTest {
                         x.lay(place, kind, worn, n), y.lay(place, kind, worn, n));
             }
             case 5, 6, 7 -> {
-                int time = of(8) == 0 ? any(0, 239) : any(x.count(7), Math.min(239, x.count(7) + 14));
+                int time = of(8) == 0 ? any(0, 239) : any(y.count(7), Math.min(239, y.count(7) + 14));
                 int n = of(10) == 0 ? any(1, 9999) : any(1, 12);
                 boolean back = of(3) == 0;
                 same("send " + time + " " + island + " " + kind + " " + n + " " + back,
                         x.send(time, island, kind, n, back), y.send(time, island, kind, n, back));
             }
             case 8 -> {
-                int sending = any(0, x.count(5) - 1);
+                int sending = any(0, y.count(5) - 1);
                 same("done " + sending, x.done(sending), y.done(sending));
             }
             case 9 -> same("judge", x.judge(), y.judge());
@@ -267,7 +267,7 @@ public final class RandomRunsTest {
 
     private void holds(int kind, int month) {
         int[] p = new int[4];
-        int all = Math.max(0, x.saved(kind, month, (1 << islands) - 1));
+        int all = Math.max(0, y.saved(kind, month, (1 << islands) - 1));
         for (int i = 0; i < 4; i++) {
             p[i] = of(3) == 0 ? any(0, 99) : of(2) == 0 ? all / 2 : i == 3 ? all : of(all + 1);
         }
@@ -285,7 +285,7 @@ public final class RandomRunsTest {
     private void keepBooks() {
         int island = anIsland();
         int kind = aKind();
-        int n = of(3) == 0 ? any(0, x.count(6)) : x.count(6);
+        int n = of(3) == 0 ? any(0, y.count(6)) : y.count(6);
         int b = any(1, of(2) == 0 ? 20 : 501);
         switch (of(14)) {
             case 0, 1 -> {
@@ -300,7 +300,7 @@ public final class RandomRunsTest {
                 same("looked " + island + " " + many + " " + bad, x.looked(island, many, bad), y.looked(island, many, bad));
             }
             case 3 -> {
-                int row = any(0, x.count(6) - 1);
+                int row = any(0, y.count(6) - 1);
                 same("annul " + row, x.annul(row), y.annul(row));
             }
             case 4 -> same("balance " + island + " " + kind + " " + n, x.balance(island, kind, n), y.balance(island, kind, n));

@@ -25,7 +25,7 @@ public final class SentencesTest {
         test.finish();
     }
 
-    private static List<Sentences.Sentence> all() {
+    static List<Sentences.Sentence> all() {
         Sentences s = new Sentences(CHECK);
         BoundaryTapeTest.sentences(s);
         BoundaryFaultsTest.sentences(s);
@@ -36,6 +36,7 @@ public final class SentencesTest {
         BoundaryStocksTest.sentences(s);
         BoundaryBooksTest.sentences(s);
         BoundaryEndsTest.sentences(s);
+        BoundaryLastTest.sentences(s);
         return s.all();
     }
 
