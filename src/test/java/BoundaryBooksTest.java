@@ -37,31 +37,31 @@ public final class BoundaryBooksTest {
     }
 
     private static void entries(Sentences s) {
-        s.hold("Promise 31", "WENT (went) or CAME: the row's number.", BoundaryBooksTest::wentAndCame);
-        s.hold("Promise 31", "NONE, and nothing happens: 60 are there,", BoundaryBooksTest::sixtyRows);
+        s.hold("Promise 31", "WENT (went) or CAME: the row's number.", BoundaryBooksTest::bookNumbers);
+        s.hold("Promise 31", "NONE, and nothing happens: 60 are there,", () -> sixtyFirst(0));
         s.hold("Promise 31", "no such ones.", BoundaryBooksTest::noSuchBook);
-        s.hold("Promise 32", "FALSE: the row's number;", BoundaryBooksTest::lookedAt);
+        s.hold("Promise 32", "FALSE: the row's number;", BoundaryBooksTest::lookNumbers);
         s.hold("Promise 32", "NONE likewise;", BoundaryBooksTest::noSuchLook);
         s.hold("Promise 32", "more false than looked at.", BoundaryBooksTest::moreFalse);
-        s.hold("Promise 33", "A VOID: the row's number;", BoundaryBooksTest::voids);
-        s.hold("Promise 33", "NONE likewise;", BoundaryBooksTest::sixtyRows);
+        s.hold("Promise 33", "A VOID: the row's number;", BoundaryBooksTest::voidNumbers);
+        s.hold("Promise 33", "NONE likewise;", () -> sixtyFirst(2));
         s.hold("Promise 33", "no such row, a VOID.", BoundaryBooksTest::noSuchVoid);
     }
 
     private static void answers(Sentences s) {
-        s.hold("Promise 34", "BALANCE as KNOWN by n;", BoundaryBooksTest::balances);
+        s.hold("Promise 34", "BALANCE as KNOWN by n;", BoundaryBooksTest::balanceAsKnown);
         s.hold("Promise 34", "-1000000: no such ones.", BoundaryBooksTest::noSuchBalance);
         s.hold("Promise 35", "The ISLAND from which, all KINDS by WORTH, most more CAME than WENT;", BoundaryBooksTest::richest);
         s.hold("Promise 35", "-2: from none did more;", BoundaryBooksTest::nobodyRich);
         s.hold("Promise 35", "NONE: no such n.", BoundaryBooksTest::noSuchRichest);
         s.hold("Promise 36", "THE JARS: what 0 k, 1 l, 2 OFF; NONE: no such ones (b 1 .. 501).", BoundaryBooksTest::noSuchJars);
         s.hold("Promise 37", "ENDS: OFF by no more than o (0 .. 99999): 100 * the least k + the greatest k;",
-            BoundaryBooksTest::noMoreThan);
+            BoundaryBooksTest::bothEnds);
         s.hold("Promise 37", "-2: there is none;", BoundaryBooksTest::noEnds);
         s.hold("Promise 37", "NONE: no such ones.", BoundaryBooksTest::noSuchEnds);
-        s.hold("Promise 38", "WHOSE; -2: nobody was looked at, m above 60;", BoundaryBooksTest::sixtyLookedAt);
+        s.hold("Promise 38", "WHOSE; -2: nobody was looked at, m above 60;", BoundaryBooksTest::whoseOfNobody);
         s.hold("Promise 38", "NONE: no such n.", BoundaryBooksTest::noSuchWhose);
-        s.hold("Promise 39", "Its ways for an ISLAND (more), else all;", BoundaryBooksTest::waysToTake);
+        s.hold("Promise 39", "Its ways for an ISLAND (more), else all;", BoundaryBooksTest::waysOfMoreOrAll);
         s.hold("Promise 39", "-2 likewise, u 0;", BoundaryBooksTest::noneTaken);
         s.hold("Promise 39", "-1: no such ones.", BoundaryBooksTest::noSuchWays);
     }
@@ -86,6 +86,71 @@ public final class BoundaryBooksTest {
             due("balance(1, 0, 60)", x.balance(1, 0, 60), sort == 0 ? 1830 : 0);
             due("balance(1, 0, 61)", x.balance(1, 0, 61), -1000000);
         }
+    }
+
+    /** A 61st row: WENT or CAME (0), FALSE (1), VOID (2). */
+    private static void sixtyFirst(int sort) {
+        CoinBoats x = Check.told(TWO);
+        for (int row = 0; row < 59; row++) {
+            x.book(1, 0, 1, true);
+        }
+        due("the 60th", sort == 0 ? x.book(1, 0, 1, false) : sort == 1 ? x.looked(1, 2, 1) : x.annul(58), 59);
+        String ahead = Picture.of(x);
+        for (int row = 0; row < 3; row++) {
+            due("a 61st", sort == 0 ? x.book(2, 1, row, row == 1) : sort == 1 ? x.looked(2, row, 0) : x.annul(row), -1);
+        }
+        CHECK.due("nothing happens", Picture.of(x), ahead);
+        due("all 60 are KNOWN", x.balance(1, 0, 60), sort == 1 ? 59 : 58);
+    }
+
+    private static void bookNumbers() {
+        CoinBoats x = Check.told(TWO);
+        for (int row = 0; row < 60; row++) {
+            due("row " + row, x.book(1 + row % 2, row / 2 % 2, row * 169, row % 3 == 0), row);
+        }
+        x = Check.told(TWO);
+        due("refused", x.book(0, 0, 1, true), -1);
+        due("the first one all the same", x.book(1, 0, 1, true), 0);
+        due("WENT is more", x.balance(1, 0, 1), 1);
+        due("CAME", x.book(1, 0, 3, false), 1);
+        due("CAME is less", x.balance(1, 0, 2), -2);
+    }
+
+    private static void lookNumbers() {
+        CoinBoats x = Check.told(TWO);
+        for (int row = 0; row < 60; row++) {
+            due("row " + row, x.looked(1 + row % 2, row, row / 2), row);
+        }
+        x = Check.told(TWO);
+        due("refused", x.looked(1, 1, 2), -1);
+        due("the first one all the same", x.looked(1, 2, 1), 0);
+        due("behind a WENT", x.book(1, 0, 1, true), 1);
+        due("the third row", x.looked(1, 2, 1), 2);
+    }
+
+    private static void voidNumbers() {
+        CoinBoats x = Check.told(TWO);
+        for (int row = 0; row < 30; row++) {
+            x.book(1, 0, 1, true);
+        }
+        for (int row = 0; row < 30; row++) {
+            due("of row " + row, x.annul(29 - row), 30 + row);
+            due("balance", x.balance(1, 0, 31 + row), 29 - row);
+        }
+        due("a 61st", x.annul(0), -1);
+    }
+
+    private static void balanceAsKnown() {
+        CoinBoats x = Check.told(TWO);
+        for (int row = 0; row < 60; row++) {
+            x.book(1, 0, row, row % 2 == 0);
+        }
+        int sum = 0;
+        for (int n = 0; n <= 60; n++) {
+            due("KNOWN by " + n, x.balance(1, 0, n), sum);
+            sum += n % 2 == 0 ? n : -n;
+        }
+        due("KNOWN by 61", x.balance(1, 0, 61), -1000000);
     }
 
     private static void knownByFirst() {
@@ -322,6 +387,23 @@ public final class BoundaryBooksTest {
         due("5 and 3", x.ends(1, 4, 2, 0), 5);
     }
 
+    private static void bothEnds() {
+        // One k alone, 0 to 10: nothing is lost of WORTH 5, so many are kept of WORTH 1.
+        for (int k = 0; k <= 10; k++) {
+            CoinBoats x = books(of(1, 5), of(100, 100), of(100 - 10 * k, 100));
+            due("k " + k + " alone", x.ends(1, 4, 2, 0), 101 * k);
+            int least = Math.max(0, k - 1);
+            int greatest = Math.min(10, k + 1);
+            due("k " + k + " and those next to it", x.ends(1, 4, 2, 10), 100 * least + greatest);
+            due("k " + k + ", not yet those next to it", x.ends(1, 4, 2, 9), 101 * k);
+        }
+        CoinBoats x = books(of(1), of(0), of(0));
+        due("any k", x.ends(1, 2, 2, 0), 10);
+        due("o 99999", x.ends(1, 2, 2, 99999), 10);
+        due("o 100000", x.ends(1, 2, 2, 100000), -1);
+        due("o -1", x.ends(1, 2, 2, -1), -1);
+    }
+
     private static void noEnds() {
         CoinBoats x = books(of(1), of(3), of(9));
         due("OFF by 6", x.ends(1, 2, 2, 5), -2);
@@ -379,6 +461,35 @@ public final class BoundaryBooksTest {
         x = looks(4, 1, 3, 2, 3, 0);
         x.looked(1, 2, 2);
         ways(x, 1, 10 * 35 + 5 * 21 + 7, 924);
+    }
+
+    private static void waysOfMoreOrAll() {
+        CoinBoats x = looks(1, 0, 1, 1);
+        ways(x, 1, 2, 2);
+        ways(x, 2, 1, 2);
+        // All ways do not ask for the false ones, those of more do: f 0 .. 5 of 10, all of one ISLAND's 5.
+        long[] more = {252, 126, 56, 21, 6, 1};
+        for (int f = 0; f <= 5; f++) {
+            ways(looks(5, f, 5, 0), 1, more[f], 252);
+            ways(looks(5, f, 5, 0), 2, 252, 252);
+        }
+        ways(looks(59, 59, 1, 1), 1, 60, 60);
+        ways(looks(59, 58, 1, 0), 1, 2, 60);
+    }
+
+    private static void whoseOfNobody() {
+        CoinBoats x = looks(0, 0, 60, 60);
+        due("KNOWN by none", x.whose(0), -2);
+        due("0 looked at", x.whose(1), -2);
+        due("m 60", x.whose(2), 2);
+        x.looked(1, 0, 0);
+        due("m 60, and 0", x.whose(3), 2);
+        x.looked(1, 1, 0);
+        due("m 61", x.whose(4), -2);
+        x.book(1, 0, 9999, true);
+        due("m 61 still", x.whose(5), -2);
+        x.annul(1);
+        due("m 1", x.whose(6), 1);
     }
 
     private static void leastPart() {
@@ -502,6 +613,7 @@ public final class BoundaryBooksTest {
         due("61", x.looked(1, 61, 60), -1);
         CHECK.due("nothing happens", Picture.of(x), ahead);
         due("the next row", x.looked(2, 1, 1), 2);
+        sixtyFirst(1);
     }
 
     private static void moreFalse() {

@@ -35,9 +35,9 @@ public final class BoundaryCoinsTest {
             BoundaryCoinsTest::changed);
         s.hold("Promise 22", "-2: it can't be;", BoundaryCoinsTest::notChanged);
         s.hold("Promise 22", "NONE: no such ones.", BoundaryCoinsTest::noSuchChange);
-        s.hold("Promise 23", "WHICH KINDS: the set; -2: none has WORTH 1;", BoundaryCoinsTest::setsWithOne);
+        s.hold("Promise 23", "WHICH KINDS: the set; -2: none has WORTH 1;", BoundaryCoinsTest::setOfAll);
         s.hold("Promise 23", "NONE: no such s, c.", BoundaryCoinsTest::noSuchWhich);
-        s.hold("Promise 24", "Its sum (pieces of all SUMS, and c for each KIND);", BoundaryCoinsTest::forEachKind);
+        s.hold("Promise 24", "Its sum (pieces of all SUMS, and c for each KIND);", BoundaryCoinsTest::sumOfAll);
         s.hold("Promise 24", "-2, NONE likewise.", BoundaryCoinsTest::noSuchSum);
     }
 
@@ -298,6 +298,30 @@ public final class BoundaryCoinsTest {
         due("1, 2 or 1, 3", worths(1, 2, 3).which(3, 1), 3);
         due("1, 3 or 1, 2", worths(1, 3, 2).which(3, 1), 3);
         due("3, 1 or 2, 1", worths(3, 2, 1).which(3, 1), 5);
+    }
+
+    private static void setOfAll() {
+        for (int kind = 0; kind < 6; kind++) {
+            int[] worths = {500, 500, 500, 500, 500, 500};
+            worths[kind] = 1;
+            due("KIND " + kind + " has WORTH 1", worths(worths).which(400, 1), 1 << kind);
+        }
+        due("all six", worths(1, 2, 4, 8, 16, 32).which(400, 0), 63);
+        due("none has WORTH 1", worths(500, 500, 500, 500, 500, 500).which(400, 1), -2);
+        due("none has WORTH 1", worths(2).which(1, 0), -2);
+    }
+
+    private static void sumOfAll() {
+        CoinBoats x = worths(1, 2, 4, 8, 16, 32);
+        int pieces = 0;
+        for (int sum = 1; sum <= 400; sum++) {
+            pieces += sum / 32 + Integer.bitCount(sum % 32);
+        }
+        due("whichSum(400, 0)", x.whichSum(400, 0), pieces);
+        due("whichSum(400, 1)", x.whichSum(400, 1), pieces + 6);
+        due("whichSum(1, 99)", x.whichSum(1, 99), 100);
+        due("the most", worths(1).whichSum(400, 99), 80299);
+        due("the most, of two", worths(1, 500).whichSum(400, 99), 80299);
     }
 
     private static void paid() {

@@ -27,7 +27,7 @@ public final class BoundaryEndsTest {
         s.hold("Promise 41", "Behind how many months no more than x (0 .. 9999) are out;", BoundaryEndsTest::noMoreOut);
         s.hold("Promise 41", "-2: not within 240;", BoundaryEndsTest::never);
         s.hold("Promise 41", "NONE: no such ones.", BoundaryEndsTest::noSuchTrickled);
-        s.hold("Promise 42", "BURN: the stage;", BoundaryEndsTest::stages);
+        s.hold("Promise 42", "BURN: the stage;", BoundaryEndsTest::eachStage);
         s.hold("Promise 42", "NONE: no such KIND, c, s.", BoundaryEndsTest::noSuchBurnAt);
         s.hold("Promise 43", "SORT (n, a, e, f 0 .. 9999, b 0 .. 100; there: a, b, e): 1 there, 0 here;", BoundaryEndsTest::sortsMost);
         s.hold("Promise 43", "NONE: no such ones.", BoundaryEndsTest::noSuchSort);
@@ -44,7 +44,7 @@ public final class BoundaryEndsTest {
         s.hold("Promise 46", "0 KINDS, 1 ISLANDS, 2 WANTS, 3 FLOWS, 4 BOATS,", BoundaryEndsTest::countsOfTheText);
         s.hold("Promise 46", "5 SENDINGS, 6 BOOKS' rows, 7 TIME,", BoundaryEndsTest::countsOfUse);
         s.hold("Promise 46", "8 bytes on the tape, 9 SLOTS that hold something,", BoundaryEndsTest::countsOfTapeAndSlots);
-        s.hold("Promise 46", "10 LOSSES, 11 WEARS.", BoundaryEndsTest::countsOfTheText);
+        s.hold("Promise 46", "10 LOSSES, 11 WEARS.", BoundaryEndsTest::countsOfLossesAndWears);
         s.hold("Promise 46", "NONE for others.", BoundaryEndsTest::noSuchCount);
     }
 
@@ -241,6 +241,19 @@ public final class BoundaryEndsTest {
         for (int stage = 1; stage <= 4; stage++) {
             due("stage " + stage + " is the best at times", seen[stage] > 0 ? 1 : 0, 1);
         }
+    }
+
+    private static void eachStage() {
+        CoinBoats x = news();
+        // NEW 30 and c 31, 5, 2, 0.
+        int[] harms = {31, 5, 2, 0};
+        for (int stage = 1; stage <= 4; stage++) {
+            due("stage " + stage, x.burnAt(3, harms[stage - 1], 1), stage);
+        }
+        due("the KIND's own NEW", x.burnAt(5, 31, 1), 2);
+        due("the KIND's own NEW", x.burnAt(0, 5, 1), 1);
+        x.lay(0, 3, 3, 9);
+        due("what is there does not matter", x.burnAt(3, 0, 1), 4);
     }
 
     private static void stagesAlike() {
@@ -480,6 +493,15 @@ public final class BoundaryEndsTest {
         int[] most = {6, 4, 8, 8, 7, 0, 0, 0, 0, 0, 8, 8};
         for (int what = 0; what < 12; what++) {
             due("count(" + what + ")", x.count(what), most[what]);
+        }
+    }
+
+    private static void countsOfLossesAndWears() {
+        String text = "kind k 1 1 1;island i 1 1;";
+        for (int n = 0; n <= 12; n++) {
+            CoinBoats x = Check.told(text + "lost i k=1;".repeat(n) + "wear k=1;".repeat(12 - n));
+            due("count(10)", x.count(10), n);
+            due("count(11)", x.count(11), 12 - n);
         }
     }
 

@@ -58,13 +58,13 @@ public final class BoundaryMonthsTest {
         s.hold("Promise 14", "A SENDING at a TIME (now or later, 0 .. 239): its number.", BoundaryMonthsTest::sendAtTimes);
         s.hold("Promise 14", "NONE, and nothing happens: 40 are there,", BoundaryMonthsTest::sendForty);
         s.hold("Promise 14", "no such ISLAND, KIND, n (1 .. 9999).", BoundaryMonthsTest::noSuchSending);
-        s.hold("Promise 15", "Why a SENDING was not DONE: 1 .. 4; 0: it is DONE;", BoundaryMonthsTest::reasonsInOrder);
+        s.hold("Promise 15", "Why a SENDING was not DONE: 1 .. 4; 0: it is DONE;", BoundaryMonthsTest::whyNotDone);
         s.hold("Promise 15", "-2: it is not its TIME yet;", BoundaryMonthsTest::notItsTime);
         s.hold("Promise 15", "NONE: no such one.", BoundaryMonthsTest::noSuchDone);
-        s.hold("Promise 16", "JUDGED: the number of the first SENDING;", BoundaryMonthsTest::judgedFirst);
+        s.hold("Promise 16", "JUDGED: the number of the first SENDING;", BoundaryMonthsTest::judgedNumbers);
         s.hold("Promise 16", "-2: all would be DONE.", BoundaryMonthsTest::allDone);
         s.hold("Promise 17", "Its reason (1, 3, 4);", BoundaryMonthsTest::why);
-        s.hold("Promise 17", "0: all would be DONE.", BoundaryMonthsTest::allDone);
+        s.hold("Promise 17", "0: all would be DONE.", BoundaryMonthsTest::noReason);
         s.hold("Promise 18", "k MONTHS (1 .. 24) go by, with LOTS of a SEED: how many pieces were lacked in them.",
             BoundaryMonthsTest::monthsGoBy);
         s.hold("Promise 18", "NONE, and nothing happens: no such k,", BoundaryMonthsTest::noSuchMonths);
@@ -325,6 +325,26 @@ public final class BoundaryMonthsTest {
         due("no pieces", x.done(3), 4);
         due("DONE", x.done(4), 0);
         due("spent(2)", x.spent(2), 1);
+    }
+
+    private static void whyNotDone() {
+        CoinBoats x = Check.told(TWO + "boat i 0 9 1;boat i 1 9 1 fails 10;");
+        x.lay(0, 1, 0, 12);
+        x.send(0, 2, 1, 1, false);
+        x.send(1, 1, 1, 1, false);
+        x.send(0, 1, 1, 10, false);
+        x.send(0, 1, 0, 1, false);
+        x.send(0, 1, 1, 9, false);
+        x.months(1, 2);
+        due("no BOAT alone", x.done(0), 1);
+        due("a BOAT that FAILS alone", x.done(1), 2);
+        due("10 in a ROOM of 9 alone", x.done(2), 3);
+        due("no pieces alone", x.done(3), 4);
+        due("9 in a ROOM of 9", x.done(4), 0);
+        x.lay(0, 0, 0, 99);
+        x.months(1, 24);
+        due("what was stays", x.done(3), 4);
+        due("what was stays", x.done(4), 0);
     }
 
     private static void flowsByHas() {
@@ -645,6 +665,37 @@ public final class BoundaryMonthsTest {
         x.lay(1, 1, 0, 99);
         due("nine by ROOM", x.judge(), 9);
         due("why()", x.why(), 3);
+    }
+
+    private static void judgedNumbers() {
+        CoinBoats x = Check.told(TWO + "boat i 0 40 1;boat i 1 40 1;");
+        for (int n = 0; n < 39; n++) {
+            x.send(0, 1, 1, 1, true);
+        }
+        x.lay(1, 1, 0, 39);
+        due("all of 39", x.judge(), -2);
+        x.send(1, 1, 1, 1, true);
+        due("the fortieth", x.judge(), 39);
+        x.burn(1, 0);
+        x.months(1, 1);
+        due("the fortieth, now", x.judge(), 39);
+        x = Check.told(TWO);
+        x.send(239, 1, 0, 1, false);
+        due("the first of one", x.judge(), 0);
+    }
+
+    private static void noReason() {
+        CoinBoats x = Check.told(TWO + "boat i 0 9 1;boat i 11 9 1;");
+        due("no SENDING", x.why(), 0);
+        x.lay(1, 1, 3, 9);
+        x.send(0, 1, 1, 9, true);
+        due("just so many, just ROOM", x.why(), 0);
+        x.send(239, 1, 1, 9, false);
+        due("those that came are there at TIME 239", x.why(), 0);
+        x.send(239, 1, 0, 1, false);
+        due("one more", x.why(), 3);
+        pass(x, 1, 240);
+        due("all is gone by", x.why(), 0);
     }
 
     private static void sendAtTimes() {

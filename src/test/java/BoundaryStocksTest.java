@@ -27,16 +27,16 @@ public final class BoundaryStocksTest {
         s.hold("Term IV", "ORDER: how many the BOAT of the first MONTH brings; of alike ones the fewest.", BoundaryStocksTest::orders);
         s.hold("Term IV", "PRICE: how much less LEAST COIN is with one piece more to begin with.", BoundaryStocksTest::prices);
         pools(s);
-        s.hold("Promise 25", "LEAST COIN; -1: no such ones.", BoundaryStocksTest::noSuchPlan);
-        s.hold("Promise 26", "ORDER; NONE: no such ones.", BoundaryStocksTest::noSuchPlan);
+        s.hold("Promise 25", "LEAST COIN; -1: no such ones.", () -> noSuchPlan(0));
+        s.hold("Promise 26", "ORDER; NONE: no such ones.", () -> noSuchPlan(1));
         s.hold("Promise 27", "PRICE; -1: no such ones, q 60.", BoundaryStocksTest::noSuchPrice);
         s.hold("Promise 28", "POOL: the least HARM of a set of ISLANDS (bit 0 is ISLAND 1 of PLACES), now, in a month;",
             BoundaryStocksTest::poolsOfSets);
-        s.hold("Promise 28", "NONE: no such ones.", BoundaryStocksTest::noSuchPool);
-        s.hold("Promise 29", "SAVED; NONE: no such ones.", BoundaryStocksTest::noSuchPool);
+        s.hold("Promise 28", "NONE: no such ones.", () -> noSuchSet(false));
+        s.hold("Promise 29", "SAVED; NONE: no such ones.", () -> noSuchSet(true));
         s.hold("Promise 30", "PARTS (four numbers, 0 at least;", BoundaryStocksTest::partsAtLeast);
         s.hold("Promise 30", "those of ISLANDS that there are not don't matter):", BoundaryStocksTest::partsOfNone);
-        s.hold("Promise 30", "0 if they HOLD, else the set;", BoundaryStocksTest::setsThatSaveMore);
+        s.hold("Promise 30", "0 if they HOLD, else the set;", BoundaryStocksTest::eachSet);
         s.hold("Promise 30", "NONE: no such ones.", BoundaryStocksTest::noSuchParts);
     }
 
@@ -270,28 +270,37 @@ public final class BoundaryStocksTest {
         due("in each of 4 ways", x.price(1, 0, 0, 1, 59, 3), 24);
     }
 
-    private static void noSuchPlan() {
+    /** LEAST COIN (0), ORDER (1), PRICE (2). */
+    private static long asked(CoinBoats x, int call, int[] a) {
+        switch (call) {
+            case 0:
+                return x.least(a[0], a[1], a[2], a[3], a[4], a[5]);
+            case 1:
+                return x.order(a[0], a[1], a[2], a[3], a[4], a[5]);
+            default:
+                return x.price(a[0], a[1], a[2], a[3], a[4], a[5]);
+        }
+    }
+
+    private static void noSuchPlan(int call) {
         CoinBoats x = Check.told("kind k 1 1 2;island i 9 6;want i k=2;boat i 0 9 3;");
         int[] right = {1, 0, 0, 1, 0, 0};
         int[][] wrong = {{0, 2}, {-1, 1}, {-1, 12}, {0, 13}, {-1, 61}, {-1, 4}};
-        due("least", x.least(1, 0, 0, 1, 0, 0), 7);
-        due("order", x.order(1, 0, 0, 1, 0, 0), 2);
+        due("of what there is", asked(x, call, right), new int[] {7, 2, 2}[call]);
+        // 60 are WANTED in just one way of all.
+        due("the most of all", asked(x, call, new int[] {1, 0, 11, 12, call == 2 ? 59 : 60, 3}), new int[] {0, 0, 6}[call]);
         for (int i = 0; i < 6; i++) {
             int[] values = {wrong[i][0], wrong[i][1], FAR[0], FAR[1], FAR[2], FAR[3], FAR[4], FAR[5]};
             for (int value : values) {
                 int[] a = right.clone();
                 a[i] = value;
-                String plan = Arrays.toString(a);
-                due("least" + plan, x.least(a[0], a[1], a[2], a[3], a[4], a[5]), -1);
-                due("order" + plan, x.order(a[0], a[1], a[2], a[3], a[4], a[5]), -1);
-                due("price" + plan, x.price(a[0], a[1], a[2], a[3], a[4], a[5]), -1);
+                due("of " + Arrays.toString(a), asked(x, call, a), -1);
             }
         }
-        due("the most of all", x.least(1, 0, 11, 12, 60, 3), 0);
     }
 
     private static void noSuchPrice() {
-        noSuchPlan();
+        noSuchPlan(2);
         CoinBoats x = Check.told("kind k 1 1 2;island i 9 6;want i k=60;");
         due("q 60", x.price(1, 0, 0, 1, 60, 0), -1);
         due("q 60, d 3", x.price(1, 0, 11, 12, 60, 3), -1);
@@ -387,28 +396,27 @@ public final class BoundaryStocksTest {
         due("saved by both, each has one", x.saved(0, 0, 3), 0);
     }
 
-    private static void noSuchPool() {
+    private static int asked(CoinBoats x, boolean saved, int kind, int month, int set) {
+        return saved ? x.saved(kind, month, set) : x.pool(kind, month, set);
+    }
+
+    private static void noSuchSet(boolean saved) {
         CoinBoats x = four();
         for (int far : FAR) {
-            due("pool(" + far + ", 0, 1)", x.pool(far, 0, 1), -1);
-            due("pool(0, " + far + ", 1)", x.pool(0, far, 1), -1);
-            due("pool(0, 0, " + far + ")", x.pool(0, 0, far), -1);
-            due("saved(" + far + ", 0, 1)", x.saved(far, 0, 1), -1);
-            due("saved(0, " + far + ", 1)", x.saved(0, far, 1), -1);
-            due("saved(0, 0, " + far + ")", x.saved(0, 0, far), -1);
+            due("KIND " + far, asked(x, saved, far, 0, 1), -1);
+            due("month " + far, asked(x, saved, 0, far, 1), -1);
+            due("set " + far, asked(x, saved, 0, 0, far), -1);
         }
-        due("KIND 1", x.pool(1, 0, 1), -1);
-        due("KIND 1", x.saved(1, 0, 1), -1);
-        due("month 12", x.pool(0, 12, 1), -1);
-        due("month 12", x.saved(0, 12, 1), -1);
-        due("set 16", x.pool(0, 0, 16), -1);
-        due("set 16", x.saved(0, 0, 16), -1);
+        due("KIND 1", asked(x, saved, 1, 0, 1), -1);
+        due("month 12", asked(x, saved, 0, 12, 1), -1);
+        due("month 11", asked(x, saved, 0, 11, 1), 0);
+        due("set 16", asked(x, saved, 0, 0, 16), -1);
+        due("set 15", asked(x, saved, 0, 0, 15), saved ? 45 : 0);
         for (int islands = 1; islands <= 4; islands++) {
             CoinBoats some = Check.told("kind k 1 1 1;" + "island a 1 1;island b 1 1;island c 1 1;island d 1 1;".substring(0, 13 * islands));
-            due("all ISLANDS", some.pool(0, 0, (1 << islands) - 1), 0);
-            due("an ISLAND too many", some.pool(0, 0, 1 << islands), -1);
-            due("all ISLANDS", some.saved(0, 0, (1 << islands) - 1), 0);
-            due("an ISLAND too many", some.saved(0, 0, 1 << islands), -1);
+            due("all ISLANDS", asked(some, saved, 0, 0, (1 << islands) - 1), 0);
+            due("an ISLAND too many", asked(some, saved, 0, 0, 1 << islands), -1);
+            due("an ISLAND too many, and one", asked(some, saved, 0, 0, (1 << islands) + 1), -1);
         }
     }
 
@@ -424,6 +432,38 @@ public final class BoundaryStocksTest {
         x = Check.told("kind k 1 1 1;island i 9 4;");
         due("one alone saves 0", x.holds(0, 0, 0, 0, 0, 0), 0);
         due("no ISLAND", Check.told("kind k 1 1 1;").holds(0, 0, 0, 0, 0, 0), 0);
+    }
+
+    /** Each set of two and more ISLANDS in turn is the one that SAVES more; none of one. */
+    private static void eachSet() {
+        String islands = "kind k 1 1 1;island a 9 1;island b 9 1;island c 9 1;island d 9 1;";
+        for (int first = 0; first < 4; first++) {
+            for (int second = 0; second < 4; second++) {
+                if (first != second) {
+                    CoinBoats x = Check.told(islands + "want " + "abcd".charAt(first) + " k=1;");
+                    x.lay(second + 1, 0, 0, 1);
+                    int[] parts = new int[4];
+                    due("1 is saved by both", x.holds(0, 0, 0, 0, 0, 0), 1 << first | 1 << second);
+                    parts[first] = 1;
+                    due("all for the one that lacks", x.holds(0, 0, parts[0], parts[1], parts[2], parts[3]), 0);
+                    parts[first] = 0;
+                    parts[second] = 1;
+                    due("all for the one that has", x.holds(0, 0, parts[0], parts[1], parts[2], parts[3]), 0);
+                    parts[first] = 1;
+                    due("1 for both", x.holds(0, 0, parts[0], parts[1], parts[2], parts[3]), 16);
+                }
+            }
+        }
+        CoinBoats x = Check.told(islands + "want a k=3;");
+        x.lay(2, 0, 0, 1);
+        x.lay(3, 0, 0, 1);
+        x.lay(4, 0, 0, 1);
+        due("3 for d: a, b", x.holds(0, 0, 0, 0, 0, 3), 3);
+        due("1 for a, 1 for d: a, b, c", x.holds(0, 0, 1, 0, 0, 1), 7);
+        due("1 for a, 1 for c: a, b, d", x.holds(0, 0, 1, 0, 1, 0), 11);
+        due("1 for a, 1 for b: a, c, d", x.holds(0, 0, 1, 1, 0, 0), 13);
+        due("2 for a: all", x.holds(0, 0, 2, 0, 0, 0), 15);
+        due("3 for a", x.holds(0, 0, 3, 0, 0, 0), 0);
     }
 
     private static void allTogether() {

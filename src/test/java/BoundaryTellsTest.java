@@ -35,7 +35,7 @@ public final class BoundaryTellsTest {
         s.hold("Promise 6", "NONE for others.", BoundaryTellsTest::noKind);
         s.hold("Promise 7", "Of a PLACE (an ISLAND): what 0 SAFE, 1 HARM.", BoundaryTellsTest::islandsOfAll);
         s.hold("Promise 7", "NONE for others, for the house.", BoundaryTellsTest::noIsland);
-        s.hold("Promise 8", "The BOAT of an ISLAND in a month;", BoundaryTellsTest::boatOfEach);
+        s.hold("Promise 8", "The BOAT of an ISLAND in a month;", BoundaryTellsTest::boatNumbers);
         s.hold("Promise 8", "-2: there is none;", BoundaryTellsTest::noBoat);
         s.hold("Promise 8", "NONE: no such ones.", BoundaryTellsTest::noSuchBoat);
         s.hold("Promise 9", "What is WANTED in a month;", BoundaryTellsTest::wanted);
@@ -202,6 +202,20 @@ public final class BoundaryTellsTest {
                 due("boat(" + place + ", " + month + ")", x.boat(place, month), want[12 * place - 12 + month]);
             }
         }
+    }
+
+    private static void boatNumbers() {
+        StringBuilder text = new StringBuilder("island i 1 1;island j 1 1;");
+        for (int month = 0; month < 12; month++) {
+            text.append("boat j ").append(month).append(" 1 1 fails 10;");
+        }
+        CoinBoats x = Check.told(text.toString());
+        for (int month = 0; month < 12; month++) {
+            due("boat(2, " + month + ")", x.boat(2, month), month);
+        }
+        x.months(1, 7);
+        due("the month that is asked, not the one that it is", x.boat(2, 0), 0);
+        due("the twelfth", x.boat(2, 11), 11);
     }
 
     private static void numbered() {
