@@ -26,7 +26,7 @@ import javax.tools.ToolProvider;
 
 /**
  * Not run by .ci/run: tries small changes of the class, one at a time, and tells which of them no Boundary test sees, and
- * which sentences no change breaks. The class path holds the compiled tests; an argument is where to write what is found.
+ * how many break each sentence. The class path holds the compiled tests; an argument is where to write what is found.
  */
 public final class SmallChanges {
     private record Change(int from, int upTo, String put) {
@@ -41,6 +41,8 @@ public final class SmallChanges {
     private final String source;
     private final List<String> unseen = new ArrayList<>();
     private final Map<String, Integer> broken = new TreeMap<>();
+    // Of each sentence, how many a change breaks that breaks it and the fewest others.
+    private final Map<String, Integer> fewest = new TreeMap<>();
     private int tried;
     private int notCompiled;
 
@@ -120,6 +122,7 @@ public final class SmallChanges {
             } else {
                 for (String one : seen) {
                     broken.merge(one, 1, Integer::sum);
+                    fewest.merge(one, seen.size(), Math::min);
                 }
             }
             if (tried % 200 == 0) {
@@ -135,7 +138,8 @@ public final class SmallChanges {
             text.append(one).append('\n');
         }
         for (Sentences.Sentence one : SentencesTest.all()) {
-            text.append(String.format("%6d break %s%n", broken.getOrDefault(one.label(), 0), one.label()));
+            text.append(String.format("%6d break (one of them %d in all) %s%n", broken.getOrDefault(one.label(), 0),
+                fewest.getOrDefault(one.label(), 0), one.label()));
         }
         return text.toString();
     }
